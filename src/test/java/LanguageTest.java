@@ -1,0 +1,99 @@
+import java.io.IOException;
+import java.lang.reflect.Constructor;
+import java.lang.reflect.Field;
+import java.lang.reflect.Method;
+import java.lang.reflect.Modifier;
+import java.nio.file.Files;
+import java.nio.file.Path;
+import java.util.Arrays;
+import java.util.List;
+import java.util.TreeSet;
+import java.util.regex.Matcher;
+import java.util.regex.Pattern;
+
+/** The face of the document, and those rules of LANGUAGE.md that can be read off the file. */
+public final class LanguageTest {
+  private static final String[] FACE = {
+    "int feed(int,int,int,int,int)", "int land(int)", "int law(int)", "int work(int)", "int book(int)", "int fault()", "int undo()",
+    "int told(int)", "int place(int,int)", "int ditch(int,int)", "int person(int,int)", "int belief(int,int)", "int pull(int,int)",
+    "int would(int,int,int,int,int,int,int,int,int)", "int course(int)", "int ahead(int,int)", "int stays()", "int tellings(int,int,int)",
+    "int silence(int)", "int who(int)", "int look(int)", "int digs(int,int)", "int way(int,int)", "int meet(int,int,int)", "int sight()",
+    "long seen(int,int,int)", "int leaders(int,int)", "int share(int,int,int)", "int right(int,int)", "int blank(int)", "int uphill()",
+    "int year(int,int,int,int)", "int span(int,int,int,int,int,int)", "int image()", "int restore()", "int status(int)", "int count(int)"};
+
+  private static void face() throws ReflectiveOperationException {
+    Class<BeliefRiver> c = BeliefRiver.class;
+    Due.is("public and final", c.getModifiers() & (Modifier.PUBLIC | Modifier.FINAL), Modifier.PUBLIC | Modifier.FINAL);
+    TreeSet<String> due = new TreeSet<>(Arrays.asList(FACE));
+    TreeSet<String> names = new TreeSet<>();
+    for (String f : FACE) names.add(f.substring(f.indexOf(' ') + 1, f.indexOf('(')));
+    for (Method m : c.getDeclaredMethods()) {
+      StringBuilder s = new StringBuilder(m.getReturnType().getName()).append(' ').append(m.getName()).append('(');
+      for (Class<?> p : m.getParameterTypes()) s.append(s.charAt(s.length() - 1) == '(' ? "" : ",").append(p.getName());
+      String text = s.append(')').toString();
+      if (Modifier.isPublic(m.getModifiers())) Due.is("of the face: " + text, due.remove(text) ? 1 : 0, 1);
+      else Due.is("private and of another name: " + text, Modifier.isPrivate(m.getModifiers()) && !names.contains(m.getName()) ? 1 : 0, 1);
+    }
+    Due.is("methods not there: " + due, due.size(), 0);
+    for (Field f : c.getDeclaredFields()) {
+      boolean fits = f.getName().equals("NONE") ? Modifier.isPublic(f.getModifiers()) : Modifier.isPrivate(f.getModifiers());
+      Due.is("field " + f.getName(), fits && (!Modifier.isStatic(f.getModifiers()) || Modifier.isFinal(f.getModifiers())) ? 1 : 0, 1);
+    }
+    Constructor<?>[] constructors = c.getDeclaredConstructors();
+    Due.is("one constructor", constructors.length == 1 && constructors[0].getParameterCount() == 0 ? 1 : 0, 1);
+    Due.is("some twelve classes", c.getDeclaredClasses().length <= 12 ? 1 : 0, 1);
+    for (Class<?> inner : c.getDeclaredClasses()) inside(inner, names);
+  }
+
+  private static void inside(Class<?> inner, TreeSet<String> names) {
+    Due.is("static: " + inner, Modifier.isStatic(inner.getModifiers()) ? 1 : 0, 1);
+    int own = 0;
+    for (Field f : inner.getDeclaredFields()) if (!Modifier.isStatic(f.getModifiers())) own++;
+    Due.is("some twenty fields: " + inner, own <= 20 ? 1 : 0, 1);
+    for (Method m : inner.getDeclaredMethods()) {
+      Due.is("not a name of the face: " + m, names.contains(m.getName()) ? 1 : 0, 0);
+      Due.is("seven parameters: " + m, m.getParameterCount() <= 7 ? 1 : 0, 1);
+    }
+  }
+
+  private static void source() throws IOException {
+    String text = Files.readString(Path.of("src/main/java/BeliefRiver.java"));
+    for (char c : text.toCharArray()) if (c > 126 || c < 32 && c != '\n') Due.is("a sign of the file", c, 0);
+    String code = text.replaceAll("(?s)/\\*.*?\\*/", "").replaceAll("//[^\n]*", "");
+    String[] never = {"->", "::", "try {", "try (", "catch", "finally", "synchronized", "assert", "static {", "package", "double", "float", "instanceof",
+        "Exact(", "hashCode", "toString", "String.format", "\" +", "+ \"", "new Random", "System.currentTime", "System.nano", "Thread", "@",
+        "protected", "[][][]", "var ", "yield", "sealed", "record ", "interface "};
+    for (String n : never) Due.is("never in the file: " + n, code.contains(n) ? 1 : 0, 0);
+    Matcher imports = Pattern.compile("import ([^;]*);").matcher(code);
+    while (imports.find()) Due.is("import " + imports.group(1), imports.group(1).equals("java.util.NoSuchElementException") ? 1 : 0, 1);
+    Matcher thrown = Pattern.compile("throw new (\\w+)\\(").matcher(code);
+    while (thrown.find()) Due.is("throw " + thrown.group(1), List.of("NoSuchElementException", "IllegalArgumentException").contains(thrown.group(1)) ? 1 : 0, 1);
+    Matcher calls = Pattern.compile("\\b(System|Math|Integer|Long|Arrays|Character|String)\\.(\\w+)").matcher(code);
+    while (calls.find()) {
+      Due.is("of the library: " + calls.group(), List.of("System.arraycopy", "Math.min", "Math.max", "Integer.bitCount").contains(calls.group()) ? 1 : 0, 1);
+    }
+    methodsAreShort(code);
+  }
+
+  private static void methodsAreShort(String code) {
+    int lines = 0;
+    boolean inside = false;
+    for (String line : code.split("\n")) {
+      if (line.matches(" {4,8}(public |private |static |final )*[\\w\\[\\]]+ ?[\\w]*\\(.*") && !line.trim().endsWith(";")) {
+        inside = true;
+        lines = 0;
+      }
+      if (inside) lines++;
+      if (line.equals("    }") || line.equals("        }")) {
+        Due.is("some sixty lines before " + line, lines <= 60 ? 1 : 0, 1);
+        inside = false;
+      }
+    }
+  }
+
+  public static void main(String[] args) throws Exception {
+    face();
+    source();
+    Due.end("LanguageTest");
+  }
+}
