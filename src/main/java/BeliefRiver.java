@@ -55,11 +55,11 @@ public final class BeliefRiver {
         spareLaw = new Law();
         book = new Book();
         spareBook = new Book();
-        work = new Work();
         now = new State();
         past = new Past();
         images = new Images();
         river = new River(land, law);
+        work = new Work(land, river, now);
         asker = new Asker(land, river);
         years = new Years(land, river);
     }
@@ -105,12 +105,11 @@ public final class BeliefRiver {
         if (past.size >= MOST_WORKS) {
             return TOO_MANY_WORKS;
         }
-        if (!work.readFrom(tape, land)) {
+        if (!work.readFrom(tape)) {
             return tape.faultAnswer();
         }
         past.push(now);
-        work.begin(river, now);
-        work.run(0, work.size, 0);
+        work.perform();
         refusedSteps = work.refused;
         return work.done;
     }
@@ -912,7 +911,7 @@ public final class BeliefRiver {
             int top = 0;
             for (int k = 0; k < size; k++) {
                 int code = codes[k];
-                if (code < PLUS) {
+                if (code < PLUS && top < values.length) {
                     values[top] = code < INPUT ? code : inputs[code - INPUT];
                     top++;
                 } else if (top >= 2) {
@@ -1125,36 +1124,43 @@ public final class BeliefRiver {
         // The shortest STEP is "day;".
         private static final int MOST_STEPS = WORK_BYTES / 4 + 1;
 
-        int size;
         int done;
         int refused;
         private int begun;
-        private River river;
-        private State state;
+        private int size;
+        private final Land land;
+        private final River river;
+        private final State state;
         private final int[] kinds = new int[MOST_STEPS];
         private final int[] ones = new int[MOST_STEPS];
         private final int[] froms = new int[MOST_STEPS];
         private final int[] tos = new int[MOST_STEPS];
 
-        boolean readFrom(Tape tape, Land land) {
-            size = 0;
-            return readSteps(tape, land, 0) && tape.endsHere();
+        Work(Land aLand, River aRiver, State aState) {
+            land = aLand;
+            river = aRiver;
+            state = aState;
         }
 
-        private boolean readSteps(Tape tape, Land land, int open) {
+        boolean readFrom(Tape tape) {
+            size = 0;
+            return readSteps(tape, 0) && tape.endsHere();
+        }
+
+        private boolean readSteps(Tape tape, int open) {
             for (int k = 0; k < WORK_BYTES; k++) {
                 int sign = tape.peek();
                 if (open == 0 ? sign == Tape.END : sign == ']') {
                     return true;
                 }
-                if (!readStep(tape, land, open) || !tape.sign(';')) {
+                if (!readStep(tape, open) || !tape.sign(';')) {
                     return false;
                 }
             }
             return true;
         }
 
-        private boolean readStep(Tape tape, Land land, int open) {
+        private boolean readStep(Tape tape, int open) {
             if (!tape.word()) {
                 return false;
             }
@@ -1169,11 +1175,11 @@ public final class BeliefRiver {
             size++;
             kinds[step] = kind;
             switch (kind) {
-                case TELL: return readPerson(tape, land, step) && readFrom(tape, land, step) && readTo(tape, land, step);
+                case TELL: return readWho(tape, step) && readStart(tape, step) && readGoal(tape, step);
                 case FORGET:
-                case WALK: return readPerson(tape, land, step) && readFrom(tape, land, step);
-                case DIG: return readFrom(tape, land, step) && readTo(tape, land, step);
-                case AGAIN: return readAgain(tape, land, open, step);
+                case WALK: return readWho(tape, step) && readStart(tape, step);
+                case DIG: return readStart(tape, step) && readGoal(tape, step);
+                case AGAIN: return readAgain(tape, open, step);
                 default: return true;
             }
         }
@@ -1197,40 +1203,39 @@ public final class BeliefRiver {
             return tape.wordIs("again") ? AGAIN : NONE;
         }
 
-        private boolean readPerson(Tape tape, Land land, int step) {
+        private boolean readWho(Tape tape, int step) {
             ones[step] = tape.number(0, land.persons - 1);
             return ones[step] != NONE;
         }
 
-        private boolean readFrom(Tape tape, Land land, int step) {
+        private boolean readStart(Tape tape, int step) {
             froms[step] = tape.number(0, land.places - 1);
             return froms[step] != NONE;
         }
 
-        private boolean readTo(Tape tape, Land land, int step) {
+        private boolean readGoal(Tape tape, int step) {
             tos[step] = tape.linkedNumber(land, froms[step]);
             return tos[step] != NONE;
         }
 
         /** Its STEPS stand behind it, up to the one that tos tells. */
-        private boolean readAgain(Tape tape, Land land, int open, int step) {
+        private boolean readAgain(Tape tape, int open, int step) {
             ones[step] = tape.number(0, MOST_AGAIN);
-            if (ones[step] == NONE || !tape.sign('[') || !readSteps(tape, land, open + 1)) {
+            if (ones[step] == NONE || !tape.sign('[') || !readSteps(tape, open + 1)) {
                 return false;
             }
             tos[step] = size;
             return tape.sign(']');
         }
 
-        void begin(River aRiver, State aState) {
-            river = aRiver;
-            state = aState;
+        void perform() {
             begun = 0;
             done = 0;
             refused = 0;
+            run(0, size, 0);
         }
 
-        void run(int first, int behind, int open) {
+        private void run(int first, int behind, int open) {
             int step = first;
             while (step < behind && begun < MOST_BEGUN && open <= MOST_OPEN) {
                 begun++;
@@ -1261,7 +1266,8 @@ public final class BeliefRiver {
             if (state.day >= MOST_DAY) {
                 return false;
             }
-            river.passDay(state);
+            river.trace(state);
+            river.flowOneDay(state);
             return true;
         }
     }
@@ -1484,13 +1490,8 @@ public final class BeliefRiver {
             return true;
         }
 
-        void passDay(State state) {
-            trace(state);
-            flowOnce(state);
-        }
-
-        /** Goes by the COURSE that was traced last, so that one trace can serve two ends. */
-        void flowOnce(State state) {
+        /** Goes by the COURSE that was traced last: whoever asks of each day needs it traced but once. */
+        void flowOneDay(State state) {
             for (int k = 0; k + 1 < length; k++) {
                 int from = path[k];
                 int to = path[k + 1];
@@ -1613,10 +1614,11 @@ public final class BeliefRiver {
 
         void traceAhead(State now, int days) {
             trial.copyFrom(now);
-            for (int k = 0; k < days; k++) {
-                river.passDay(trial);
-            }
             river.trace(trial);
+            for (int k = 0; k < days; k++) {
+                river.flowOneDay(trial);
+                river.trace(trial);
+            }
         }
 
         int findStay(State now) {
@@ -1632,7 +1634,7 @@ public final class BeliefRiver {
                 if (k - since == SAME_DAYS) {
                     return since;
                 }
-                river.flowOnce(trial);
+                river.flowOneDay(trial);
             }
             return NONE;
         }
@@ -1918,7 +1920,8 @@ public final class BeliefRiver {
                 if (land.persons > 0) {
                     stir(q);
                 }
-                river.passDay(trial);
+                river.trace(trial);
+                river.flowOneDay(trial);
             }
             river.trace(trial);
         }
