@@ -1588,7 +1588,6 @@ public final class BeliefRiver {
     private static final class Asker {
         private static final int MOST_STAY = 60;
         private static final int SAME_DAYS = 20;
-        private static final int REFUSED = -2;
 
         int fewestTellings;
         int firstTelling;
@@ -1661,41 +1660,29 @@ public final class BeliefRiver {
             }
         }
 
-        /** What is believed of a PLACE draws the river from there alone: each tell can be tried for itself. */
+        /** What is believed of a PLACE draws the river from there alone, so each tell is tried for itself. */
         private void turnByTells(int person, int a) {
-            int believed = trial.believes(person, a);
             for (int b = 0; b < land.places; b++) {
-                int at = a * MOST_PLACES + b;
-                byPair[at] = REFUSED;
-                if (land.between(a, b) != NONE && trial.tell(person, a, b)) {
-                    byPair[at] = river.goesOn(trial, a);
-                    putBackBelief(person, a, believed);
+                if (land.between(a, b) != NONE) {
+                    trial.tell(person, a, b);
+                    byPair[a * MOST_PLACES + b] = river.goesOn(trial, a);
                 }
             }
         }
 
-        private void putBackBelief(int person, int a, int believed) {
-            if (believed == NONE) {
-                trial.forget(person, a);
-            } else {
-                trial.tell(person, a, believed);
-            }
-        }
-
+        /** A REFUSED tell changes nothing, so it is never one of the fewest and needs no care here. */
         private int firstOfTellings(int place, boolean withSecond) {
             for (int a = 0; a < land.places; a++) {
-                int kept = next[a];
+                int untold = next[a];
                 for (int b = 0; b < land.places; b++) {
-                    int turned = byPair[a * MOST_PLACES + b];
-                    if (turned != REFUSED) {
-                        next[a] = turned;
-                        boolean comes = withSecond ? secondHelps(place, a) : comesTo(place);
-                        next[a] = kept;
-                        if (comes) {
+                    if (land.between(a, b) != NONE) {
+                        next[a] = byPair[a * MOST_PLACES + b];
+                        if (withSecond ? secondHelps(place, a) : comesTo(place)) {
                             return 100 * a + b;
                         }
                     }
                 }
+                next[a] = untold;
             }
             return NONE;
         }
@@ -1703,35 +1690,28 @@ public final class BeliefRiver {
         /** A second tell of the first one's PLACE leaves what one tell or none leaves: it is not tried. */
         private boolean secondHelps(int place, int first) {
             for (int a = 0; a < land.places; a++) {
-                int kept = next[a];
-                for (int b = 0; b < land.places && a != first; b++) {
-                    int turned = byPair[a * MOST_PLACES + b];
-                    if (turned != REFUSED) {
-                        next[a] = turned;
-                        boolean comes = comesTo(place);
-                        next[a] = kept;
-                        if (comes) {
+                int untold = next[a];
+                for (int b = 0; b < land.places; b++) {
+                    if (a != first && land.between(a, b) != NONE) {
+                        next[a] = byPair[a * MOST_PLACES + b];
+                        if (comesTo(place)) {
                             return true;
                         }
                     }
                 }
+                next[a] = untold;
             }
             return false;
         }
 
+        /** Who goes in a circle comes to nothing new, so as many turns as there are PLACES are enough. */
         private boolean comesTo(int place) {
-            int came = 0;
             int at = land.spring;
-            for (int k = 0; k < land.places; k++) {
+            for (int k = 0; k < land.places && at != NONE; k++) {
                 if (at == place) {
                     return true;
                 }
-                came |= 1 << at;
-                int to = next[at];
-                if (to == NONE || (came >> to & 1) != 0) {
-                    return false;
-                }
-                at = to;
+                at = next[at];
             }
             return false;
         }
@@ -1840,9 +1820,6 @@ public final class BeliefRiver {
             rests = 0;
             firstRest = NONE;
             restGain = 0;
-            if (land.places == 0) {
-                return;
-            }
             tryAllSayings(now, trust);
             for (int one = 0; one < land.places; one++) {
                 for (int two = 0; two < land.places; two++) {

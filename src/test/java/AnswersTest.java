@@ -178,7 +178,9 @@ public final class AnswersTest {
     stay(0, "1");
     stay(0, "60-day"); // 20 days more are enough
     stay(60, "(day%2)*(1-least[day/60,1])");
-    stay(-1, "(day%2)*(1-least[day/62,1])");
+    stay(-1, "((day+1)%2)*(1-least[day/61,1])");
+    stay(0, "21-day");
+    stay(20, "20-day");
     stay(-1, "day%2");
     stay(20, "least[day/20,1]");
     // On days 19, 38, .. it runs, so it never is the same for 20 days more.
@@ -477,6 +479,31 @@ public final class AnswersTest {
     }
   }
 
+  private static void imagesOfWorks() {
+    BeliefRiver x = Due.of(LAND);
+    Due.work(x, "day;");
+    Due.work(x, "dig 0 1;");
+    Due.work(x, "day;");
+    x.image();
+    for (int k = 0; k < 3; k++) x.undo();
+    Due.work(x, "walk 0 2;");
+    Due.work(x, "tell 0 3 1;");
+    Due.work(x, "again 3[day;];");
+    Due.work(x, "again 4[dig 0 1;];");
+    x.image();
+    Due.is("restore the second", x.restore(), 1);
+    Due.is("undo", x.undo(), 3);
+    Due.is("not dug", x.ditch(0, 2), 0);
+    Due.is("restore the first", x.restore(), 0);
+    int[][] due = {{2, 1}, {1, 1}, {1, 0}, {0, 0}};
+    for (int k = 0; k < 4; k++) {
+      Due.is("day of image, undone " + k, x.told(3), due[k][0]);
+      Due.is("dug of image, undone " + k, x.ditch(0, 2), due[k][1]);
+      Due.is("where it was", x.person(0, 1), 0);
+      Due.is("undo", x.undo(), k == 3 ? -1 : 2 - k);
+    }
+  }
+
   private static void counts() {
     BeliefRiver x = Due.of(LAND);
     Due.is("status", x.status(0) + x.status(1), 0);
@@ -534,6 +561,7 @@ public final class AnswersTest {
     uphills();
     years();
     images();
+    imagesOfWorks();
     counts();
     Due.end("AnswersTest");
   }

@@ -288,7 +288,8 @@ public final class RandomRunsTest {
     if (chance(95)) tellText(0);
     for (int k = 0; k < CALLS; k++) {
       int kind = below(100);
-      if (manyWorks && chance(40)) tellText(2);
+      if (manyWorks && chance(30)) tellText(2);
+      else if (manyWorks && chance(30)) keep();
       else if (kind < 1) tellText(0);
       else if (kind < 5) tellText(1);
       else if (kind < 14) tellText(2);

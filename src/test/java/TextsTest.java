@@ -86,6 +86,8 @@ public final class TextsTest {
     landFault(3, 96, twelve + "place 1;");
     landFault(3, 98, twelve + "  place");
     landFault(1, 96, twelve + "placed 1;");
+    landFault(2, 118, twelve + "person 1 11;claim0 11 12;");
+    landFault(2, 105, twelve + "ditch 11 12;");
     StringBuilder ditches = new StringBuilder();
     int made = 0;
     for (int a = 0; a < 11 && made < 16; a++, made++) ditches.append("ditch ").append(a).append(' ').append(a + 1).append(';');
@@ -184,6 +186,10 @@ public final class TextsTest {
     lawFault(3, six.length(), six + "most[1,2]");
     lawFault(1, six.length(), six + "mosts");
     lawFault(3, six.length() + 2, six + "1+(1)");
+    String behind = "least[1,most[1,(least[1,most[1,(";
+    lawFault(1, behind.length(), behind);
+    lawFault(3, behind.length(), behind + "(1");
+    lawFault(3, behind.length(), behind + "least[");
     BeliefRiver x = new BeliefRiver();
     Due.feed(x, "1".repeat(200));
     Due.illegal("law beyond 150", () -> x.law(151));
@@ -250,6 +256,8 @@ public final class TextsTest {
 
   private static void workFaults() {
     workFault(1, 4, "day;days;");
+    workFault(1, 4, "day;dayz;");
+    workFault(1, 4, "day;aday;");
     workFault(1, 7, "day;day");
     workFault(1, 4, "day;]");
     workFault(1, 4, "day;;");
