@@ -6,6 +6,7 @@ final class Due {
 
   private static int wrong = 0;
   private static int asked = 0;
+  private static String sentence = "";
 
   private Due() { }
 
@@ -13,14 +14,17 @@ final class Due {
     asked++;
     if (got == due) return;
     wrong++;
-    System.out.println(what + " answered " + got + ", due is " + due);
+    System.out.println((sentence.isEmpty() ? "" : "[" + sentence + "] ") + what + " answered " + got + ", due is " + due);
   }
+
+  /** What is wrong from here on is told with this sentence of the document. */
+  static void under(String aSentence) { sentence = aSentence; }
 
   static void missing(String what, Call call) { is(what + " throws (1 NoSuchElementException)", thrown(call), 1); }
 
   static void illegal(String what, Call call) { is(what + " throws (2 IllegalArgumentException)", thrown(call), 2); }
 
-  private static int thrown(Call call) {
+  static int thrown(Call call) {
     try {
       call.answer();
       return 0;

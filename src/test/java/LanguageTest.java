@@ -14,12 +14,20 @@ import java.util.regex.Pattern;
 /** The face of the document, and those rules of LANGUAGE.md that can be read off the file. */
 public final class LanguageTest {
   private static final String[] FACE = {
-    "int feed(int,int,int,int,int)", "int land(int)", "int law(int)", "int work(int)", "int book(int)", "int fault()", "int undo()",
-    "int told(int)", "int place(int,int)", "int ditch(int,int)", "int person(int,int)", "int belief(int,int)", "int pull(int,int)",
-    "int would(int,int,int,int,int,int,int,int,int)", "int course(int)", "int ahead(int,int)", "int stays()", "int tellings(int,int,int)",
-    "int silence(int)", "int who(int)", "int look(int)", "int digs(int,int)", "int way(int,int)", "int meet(int,int,int)", "int sight()",
-    "long seen(int,int,int)", "int leaders(int,int)", "int share(int,int,int)", "int right(int,int)", "int blank(int)", "int uphill()",
-    "int year(int,int,int,int)", "int span(int,int,int,int,int,int)", "int image()", "int restore()", "int status(int)", "int count(int)"};
+    "int feed(int,int,int,int,int)", "int land(int) IllegalArgumentException", "int law(int) IllegalArgumentException",
+    "int work(int) IllegalArgumentException", "int book(int) IllegalArgumentException", "int fault()", "int undo()",
+    "int told(int) IllegalArgumentException", "int place(int,int) NoSuchElementException,IllegalArgumentException",
+    "int ditch(int,int) NoSuchElementException,IllegalArgumentException", "int person(int,int) NoSuchElementException,IllegalArgumentException",
+    "int belief(int,int) NoSuchElementException", "int pull(int,int) NoSuchElementException",
+    "int would(int,int,int,int,int,int,int,int,int) IllegalArgumentException", "int course(int) IllegalArgumentException",
+    "int ahead(int,int) IllegalArgumentException", "int stays()", "int tellings(int,int,int) NoSuchElementException,IllegalArgumentException",
+    "int silence(int) NoSuchElementException", "int who(int) IllegalArgumentException", "int look(int) IllegalArgumentException",
+    "int digs(int,int) NoSuchElementException", "int way(int,int) NoSuchElementException",
+    "int meet(int,int,int) NoSuchElementException,IllegalArgumentException", "int sight()", "long seen(int,int,int) IllegalArgumentException",
+    "int leaders(int,int) IllegalArgumentException", "int share(int,int,int) NoSuchElementException,IllegalArgumentException",
+    "int right(int,int) NoSuchElementException,IllegalArgumentException", "int blank(int) IllegalArgumentException", "int uphill()",
+    "int year(int,int,int,int) IllegalArgumentException", "int span(int,int,int,int,int,int) IllegalArgumentException", "int image()",
+    "int restore()", "int status(int)", "int count(int)"};
 
   private static void face() throws ReflectiveOperationException {
     Class<BeliefRiver> c = BeliefRiver.class;
@@ -30,7 +38,9 @@ public final class LanguageTest {
     for (Method m : c.getDeclaredMethods()) {
       StringBuilder s = new StringBuilder(m.getReturnType().getName()).append(' ').append(m.getName()).append('(');
       for (Class<?> p : m.getParameterTypes()) s.append(s.charAt(s.length() - 1) == '(' ? "" : ",").append(p.getName());
-      String text = s.append(')').toString();
+      s.append(')');
+      for (Class<?> e : m.getExceptionTypes()) s.append(s.charAt(s.length() - 1) == ')' ? " " : ",").append(e.getSimpleName());
+      String text = s.toString();
       if (Modifier.isPublic(m.getModifiers())) Due.is("of the face: " + text, due.remove(text) ? 1 : 0, 1);
       else Due.is("private and of another name: " + text, Modifier.isPrivate(m.getModifiers()) && !names.contains(m.getName()) ? 1 : 0, 1);
     }
