@@ -229,6 +229,7 @@ final class AskEdges {
     BeliefRiver y = Due.of(Edge.FULL + "claim 5 11 10;claim 4 1 0;");
     who(y, "11 10;", 32, 0, 0);
     who(y, "11 10;1 2;", 16, 16, 16); // the COURSE does not come to 1; from there it goes to 0 only if 4 believes so
+    who(y, "11 10;1 2;0 1;", 0, -1, 0);
     who(y, "11 10;1 0;", 16, 0, 0);
     who(y, "11 10;1 0;0 1;", 0, -1, 0);
     who(y, "10 11;", 64, 0, 0);
@@ -267,7 +268,7 @@ final class AskEdges {
     look(z, "10 9;", 11, 16);
     // Three ways: on to 2 by two sets, to 1 by one, nowhere by one.
     BeliefRiver w = Due.of(FORK + "person 1 0;person 2 0;claim 0 0 1;claim 1 0 2;", "belief");
-    look(w, "", 0, 2);
+    for (int k = 0; k < 5; k++) look(w, "", 0, 2);
     look(w, "0 2;", 1, 2);
     look(w, "0 1;", 1, 1);
     Sentences.hold("LOOK: 0 the PLACE, 1 how many sets are left at the worst; NONE: all are in lines.");
@@ -427,6 +428,7 @@ final class AskEdges {
     rests(x, 1, 1, 808, 2);
     Due.law(x, "belief+near*9-10");
     rests(x, 1, 3, 808, 2);
+    rests(Due.of(FORK, "belief+near*9-1"), 1, 2, 101, 2); // not in place 0 either
     // What others believe counts along with them, and what they say is doubt elsewhere.
     BeliefRiver y = Due.of(FORK + "person 3 0;claim 0 0 2;", "belief*3-doubt");
     rests(y, 0, 1, 202, 2);
@@ -443,6 +445,8 @@ final class AskEdges {
     rests(w, 1, 1, 0, 2);
     // Who says 2 alone has it, if both do it goes nowhere: all but (1, 1) rest.
     rests(Due.of(FORK, "(to-1)*belief*doubt"), 1, 3, 102, 2);
+    // It goes to 1 if they say the same, to 2 if not: all but (1, 1) rest here, too.
+    rests(Due.of(FORK, "(to-1)*(2-(belief-doubt)*(belief-doubt))+(2-to)"), 1, 3, 102, 2);
     Sentences.hold("LEADERS by d (0 to 30): 0 how many RESTS, 1 the first (100 times the one's PLACE, and the other one's; NONE), 2 what both have by it together (0 without).");
     BeliefRiver six = Due.of("place 0;place 0;ditch 0 1;" + "person 9 0;".repeat(6) + claims("0 1"), "belief-113");
     rests(six, 30, 1, 101, 2);

@@ -36,6 +36,7 @@ final class KeepEdges {
     Due.is("image", x.image(), 1);
     for (int k = 15; k >= 0; k--) Due.is("undo", x.undo(), k);
     Due.is("work", Due.work(x, "forget 0 0;dig 0 1;again 3[dig 9 11;];walk 0 1;tell 5 10 9;"), 7);
+    for (int k = 1; k < 16; k++) Due.is("work", Due.work(x, k % 2 == 1 ? "walk 0 0;tell 5 11 8;" : "walk 0 1;forget 5 11;"), 2);
     Due.is("restore", x.restore(), 0);
     Due.is("sixteen works", x.count(2), 16);
     Due.is("a 17th", Due.work(x, "day;"), -20);

@@ -477,6 +477,7 @@ final class TextEdges {
     Edge.lawFails(1, "^fallto");
     Edge.lawFails(1, "1 ^0");
     Edge.workFails(1, "^dayday;");
+    for (char letter = 'a'; letter <= 'z'; letter++) Edge.workFails(1, "^day" + letter + ";");
     Edge.landIs(2, "  place  7  ;  place  6  ;  ditch  0  1  ;  person  9  1  ;  claim  0  1  0  ;  spring  1  ;  ");
     Edge.lawDraws(26, "  least  [  fall  ,  most  [  1  ,  2  ]  ]  +  (  3  *  belief  )  ");
     Edge.workDoes(6, 0, "  tell  1  3  2  ;  forget  1  3  ;  again  2  [  day  ;  ]  ;  dig  0  1  ;  walk  1  0  ;  ");
