@@ -108,6 +108,9 @@ final class AskEdges {
     for (int n = 0; n < 2; n++) Due.is("places and end", x.ahead(n, 0) * 10 + x.ahead(n, 1), 153);
     Due.is("another order is another course", x.stays(), -1);
     Due.is("0 or 8", Due.of("place 1;".repeat(12) + "ditch 2 0;ditch 2 8;spring 2;", "1+to*(day%2)").stays(), -1);
+    Due.is("2 1 0 or 2 3 0", Due.of("place 0;place 5;place 9;place 5;ditch 2 1;ditch 1 0;ditch 2 3;ditch 3 0;spring 2;", "fall+to*(day%2)").stays(), -1);
+    Due.is("twelve places", Due.of(Edge.FULL, Edge.ALONG).stays(), 0);
+    Due.is("twelve places, later eleven", Due.of(Edge.FULL, Edge.ALONG + "-day/9*(from/10)").stays(), 9);
     Due.is("11 or none", Due.of("place 1;".repeat(12) + "ditch 0 11;", "day%2").stays(), -1);
     Sentences.hold("STAYS (0: now).");
     stay(0, "1");

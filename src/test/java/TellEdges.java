@@ -116,6 +116,8 @@ final class TellEdges {
     Due.is("the first", y.place(0, 4), 0);
     BeliefRiver z = Due.of(Edge.FULL, Edge.ALONG);
     for (int a = 0; a < 12; a++) Due.is("the how manieth " + a, z.place(a, 4), a);
+    Due.law(z, "1-from");
+    for (int a = 0; a < 12; a++) Due.is("of two, no more " + a, z.place(a, 4), a < 2 ? a : -1);
   }
 
   private static void missingOnes() {
