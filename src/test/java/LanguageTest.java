@@ -28,8 +28,28 @@ public final class LanguageTest {
     "int right(int,int) NoSuchElementException,IllegalArgumentException", "int blank(int) IllegalArgumentException", "int uphill()",
     "int year(int,int,int,int) IllegalArgumentException", "int span(int,int,int,int,int,int) IllegalArgumentException", "int image()",
     "int restore()", "int status(int)", "int count(int)"};
+  private static final Path DOCUMENT = Path.of("../shared/DOC.md");
 
-  private static void face() throws ReflectiveOperationException {
+  /** The calls of the document's face, each as "type name(types) exceptions". */
+  private static TreeSet<String> calls() throws IOException {
+    String all = Files.readString(DOCUMENT);
+    String face = all.substring(all.indexOf("public final class BeliefRiver {"), all.indexOf("## Terms"));
+    TreeSet<String> calls = new TreeSet<>();
+    Matcher line = Pattern.compile("public (\\w+ \\w+)\\(([^)]*)\\)(?: throws ([^;]*))?;").matcher(face);
+    while (line.find()) {
+      String types = line.group(2).replaceAll("(\\w+) \\w+", "$1").replace(", ", ",");
+      calls.add(line.group(1) + "(" + types + ")" + (line.group(3) == null ? "" : " " + line.group(3).replace(", ", ",")));
+    }
+    return calls;
+  }
+
+  private static void faceIsTheDocuments() throws IOException {
+    TreeSet<String> due = calls();
+    for (String f : FACE) Due.is("in the document: " + f, due.remove(f) ? 1 : 0, 1);
+    Due.is("in the document, but not here: " + due, due.size(), 0);
+  }
+
+  private static void face() {
     Class<BeliefRiver> c = BeliefRiver.class;
     Due.is("public and final", c.getModifiers() & (Modifier.PUBLIC | Modifier.FINAL), Modifier.PUBLIC | Modifier.FINAL);
     TreeSet<String> due = new TreeSet<>(Arrays.asList(FACE));
@@ -102,6 +122,8 @@ public final class LanguageTest {
   }
 
   public static void main(String[] args) throws Exception {
+    if (Files.exists(DOCUMENT)) faceIsTheDocuments();
+    else System.out.println("no " + DOCUMENT + " here: the face was held against the one written down in this test");
     face();
     source();
     Due.end("LanguageTest");
